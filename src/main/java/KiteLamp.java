@@ -45,7 +45,7 @@ public final class KiteLamp {
     public KiteLamp() {
         Sky empty = new Sky();
         tape = new byte[SIGNS];
-        reader = new SkyReader(tape, empty);
+        reader = new SkyReader(empty);
         air = new Air(empty);
         search = new Search();
         now = new Night(empty);
@@ -65,7 +65,7 @@ public final class KiteLamp {
 
     public int sky() {
         Sky told = new Sky();
-        int fault = reader.read(signs, told);
+        int fault = reader.read(tape, signs, told);
         signs = 0;
         if (fault == 0) {
             now.begin(told);
@@ -183,11 +183,8 @@ public final class KiteLamp {
         air.feel(now, now.minute, 0);
         int bits = 0;
         for (int k = 0; k < now.sky.kites; k++) {
-            // A LOST kite is gone already, so it is none that may go.
-            if (!now.isLost(k)) {
-                air.hang(now, now.lost | 1 << k);
-                bits |= air.high >= high ? 1 << k : 0;
-            }
+            air.hang(now, now.lost | 1 << k);
+            bits |= air.high >= high ? 1 << k : 0;
         }
         return bits;
     }
@@ -948,7 +945,7 @@ public final class KiteLamp {
         private static final int LONGEST_WORD = 8;
         private static final int LONGEST_NUMBER = 4;
 
-        private final byte[] text;
+        private byte[] text = {};
         private final long[] words = new long[Token.WORDS];
         private int length;
         private int next;
@@ -957,8 +954,7 @@ public final class KiteLamp {
         int number;
         long word;
 
-        Cutter(byte[] tape) {
-            text = tape;
+        Cutter() {
             int at = 0;
             for (int i = 0; i < Token.TOLD.length(); i++) {
                 char sign = Token.TOLD.charAt(i);
@@ -970,8 +966,9 @@ public final class KiteLamp {
             }
         }
 
-        void open(int signs) {
-            length = clamped(signs, 0, text.length);
+        void open(byte[] tape, int signs) {
+            text = tape;
+            length = clamped(signs, 0, tape.length);
             next = 0;
             step();
         }
@@ -1048,7 +1045,7 @@ public final class KiteLamp {
         private static final int TOO_MANY = 5;
         private static final int DEEPEST = 5;
 
-        private final Cutter cutter;
+        private final Cutter cutter = new Cutter();
         private final long[] names = new long[KITES];
         private final int[] code = new int[SIGNS];
         private int fault;
@@ -1057,16 +1054,15 @@ public final class KiteLamp {
         private int law;
         private Sky sky;
 
-        SkyReader(byte[] tape, Sky first) {
-            cutter = new Cutter(tape);
+        SkyReader(Sky first) {
             sky = first;
         }
 
-        int read(int signs, Sky into) {
+        int read(byte[] tape, int signs, Sky into) {
             fault = 0;
             told = 0;
             sky = into;
-            cutter.open(signs);
+            cutter.open(tape, signs);
             for (int i = 0; i <= SIGNS && cutter.token != Token.END; i++) {
                 if (cutter.token == Token.KITE) {
                     readKite();

@@ -1,0 +1,178 @@
+/** Promises 10 (nearest) and 11 (fewest). */
+public final class LengthsTest {
+    /** In a wind of 20 they pull 10 and 6; alone the second holds the lamp at 20, over 34. */
+    private static final String TWO = "lamp 4;" + kite("a", 10, 5, 0, 12) + kite("b", 30, 3, 0, 20);
+
+    public static void main(String[] args) {
+        nearestByOne();
+        nearestTakesTheFewestThenTheFirst();
+        nearestKeepsToTheLine();
+        nearestLeavesLostOnes();
+        wrongNearest();
+        fewestByOne();
+        fewestByMany();
+        wrongFewest();
+        allStaysAsItIs();
+        sixKitesAgainstTheModel();
+        Check.finish("LengthsTest");
+    }
+
+    private static String kite(String name, int at, int lift, int least, int length) {
+        return "kite " + name + " plain at " + at + " lift " + lift + " least " + least + " long " + length + ";";
+    }
+
+    private static void nearest(KiteLamp lamp, int place, int high, int... due) {
+        for (int what = 0; what < due.length; what++) {
+            Check.same("nearest(" + place + ", " + high + ", " + what + ")", lamp.nearest(place, high, what), due[what]);
+        }
+    }
+
+    private static void nearestByOne() {
+        KiteLamp lamp = Told.under(TWO);
+        nearest(lamp, 34, 20, 0, 0, 12, 20);
+        nearest(lamp, 34, 18, 0, 1, 12, 18);
+        nearest(lamp, 34, 17, 1, 1, 12, 18);
+        nearest(lamp, 34, 23, 1, 1, 12, 22);
+        nearest(lamp, 30, 20, 4, 0, 12, 20);
+        nearest(lamp, 14, 12, 26, 1, 12, 18);
+        nearest(lamp, 999, 40, 965 + 18, 1, 12, 22);
+        nearest(Told.under(""), 10, 10, 16, 0);
+    }
+
+    private static void nearestTakesTheFewestThenTheFirst() {
+        KiteLamp lamp = Told.under("lamp 4;" + kite("a", 10, 5, 0, 10) + kite("b", 10, 5, 0, 10));
+        // Either alone would do: kite 0 is the shorter in the first of both.
+        nearest(lamp, 14, 12, 0, 1, 10, 12);
+        nearest(lamp, 14, 11, 0, 1, 10, 11);
+        nearest(lamp, 14, 9, 0, 2, 8, 9);
+        nearest(lamp, 14, 10, 0, 0, 10, 10);
+    }
+
+    private static void nearestKeepsToTheLine() {
+        KiteLamp lamp = Told.under("lamp 4;" + kite("a", 10, 5, 0, 1));
+        nearest(lamp, 4, 0, 0, 1, 0);
+        nearest(lamp, 14, 0, 1, 0, 1);
+        nearest(lamp, 14, 5, 2, 1, 3);
+        lamp = Told.under("lamp 4;" + kite("a", 10, 5, 0, 39));
+        nearest(lamp, 14, 40, 0, 1, 40);
+        nearest(lamp, 14, 36, 1, 1, 37);
+        lamp = Told.under("lamp 4;" + kite("a", 10, 5, 0, 40));
+        nearest(lamp, 14, 40, 0, 0, 40);
+        // The wind changes by height: below 12 the kite hangs SLACK.
+        lamp = Told.under("wind high;lamp 1;" + kite("a", 10, 5, 12, 12));
+        nearest(lamp, 12, 11, 1, 0, 12);
+        nearest(lamp, 0, 0, 0, 1, 10);
+    }
+
+    private static void nearestLeavesLostOnes() {
+        KiteLamp lamp = Told.under(TWO);
+        lamp.lose(1, false);
+        nearest(lamp, 14, 11, 0, 1, 11, 20);
+        nearest(lamp, 34, 20, 26, 1, 14, 20);
+        lamp.lose(0, false);
+        nearest(lamp, 4, 1, 1, 0, 12, 20);
+    }
+
+    private static void wrongNearest() {
+        KiteLamp lamp = Told.under(TWO);
+        int[][] wrong = {{-1, 0, 0}, {1000, 0, 0}, {0, -1, 0}, {0, 41, 0}, {0, 0, -1}, {0, 0, 4},
+            {Integer.MIN_VALUE, 0, 0}, {0, Integer.MAX_VALUE, 0}, {0, 0, Integer.MAX_VALUE}, {0, 0, Integer.MIN_VALUE}};
+        for (int[] call : wrong) {
+            Check.same("nearest(" + call[0] + ", " + call[1] + ", " + call[2] + ")",
+                lamp.nearest(call[0], call[1], call[2]), -1);
+        }
+    }
+
+    private static void fewest(KiteLamp lamp, int place, int high, int away, int each, int due) {
+        Check.same("fewest(" + place + ", " + high + ", " + away + ", " + each + ")",
+            lamp.fewest(place, high, away, each), due);
+    }
+
+    private static void fewestByOne() {
+        KiteLamp lamp = Told.under(TWO);
+        fewest(lamp, 34, 20, 0, 1, 0);
+        fewest(lamp, 34, 21, 0, 1, 1);
+        fewest(lamp, 34, 22, 0, 1, -1);
+        fewest(lamp, 34, 22, 1, 1, 1);
+        fewest(lamp, 34, 22, 2, 1, 0);
+        fewest(lamp, 34, 22, 0, 2, 1);
+        fewest(lamp, 34, 17, 0, 2, -1);
+        fewest(lamp, 34, 17, 0, 3, 1);
+        fewest(lamp, 34, 16, 0, 3, -1);
+        fewest(lamp, 999, 40, 999, 1, 0);
+        lamp.lose(1, false);
+        fewest(lamp, 14, 12, 0, 3, 0);
+        fewest(lamp, 14, 9, 0, 3, 1);
+        fewest(lamp, 34, 20, 0, 3, -1);
+    }
+
+    private static void fewestByMany() {
+        StringBuilder six = new StringBuilder("lamp 60;");
+        for (int k = 0; k < 6; k++) {
+            six.append(kite("k" + (char) ('a' + k), 10, 5, 0, 20));
+        }
+        KiteLamp lamp = Told.under(six.toString());
+        fewest(lamp, 14, 20, 0, 3, 0);
+        fewest(lamp, 14, 23, 0, 3, 6);
+        fewest(lamp, 14, 23, 0, 2, -1);
+        fewest(lamp, 14, 17, 0, 3, 1);
+        nearest(lamp, 14, 22, 0, 6, 22, 22, 22, 22, 22, 22);
+        nearest(lamp, 14, 18, 0, 1, 18, 20, 20, 20, 20, 20);
+        lamp = Told.under(six.toString().replace("long 20", "long 1").replace("lamp 60", "lamp 61"));
+        // Nothing pulls only if all lines are in.
+        fewest(lamp, 4, 0, 0, 1, 6);
+        nearest(lamp, 4, 0, 0, 6, 0, 0, 0, 0, 0, 0);
+        lamp = Told.under("lamp 15;" + kite("a", 10, 5, 0, 10) + kite("b", 30, 5, 0, 10));
+        fewest(lamp, 24, 12, 0, 2, 2);
+        fewest(lamp, 24, 9, 0, 1, 1);
+        fewest(lamp, 24, 11, 1, 1, 0);
+    }
+
+    private static void wrongFewest() {
+        KiteLamp lamp = Told.under(TWO);
+        int[][] wrong = {{-1, 20, 999, 1}, {1000, 20, 999, 1}, {34, -1, 999, 1}, {34, 41, 999, 1}, {34, 20, -1, 1},
+            {34, 20, 1000, 1}, {34, 20, 999, 0}, {34, 20, 999, 4}, {34, 20, 999, Integer.MIN_VALUE},
+            {34, 20, Integer.MAX_VALUE, 1}};
+        for (int[] call : wrong) {
+            fewest(lamp, call[0], call[1], call[2], call[3], -1);
+        }
+    }
+
+    private static void allStaysAsItIs() {
+        KiteLamp lamp = Told.under(TWO);
+        lamp.whistle(0, 30);
+        lamp.nearest(14, 5, 0);
+        lamp.fewest(14, 5, 0, 3);
+        Check.same("lengths stay", lamp.kite(0, 1) * 100 + lamp.kite(1, 1), 1220);
+        Check.same("the whistle stays", lamp.kite(0, 4), 30);
+        Check.same("no minute goes by", lamp.count(1), 0);
+    }
+
+    /** The search leaves out what cannot win; the Model tries every choice. */
+    private static void sixKitesAgainstTheModel() {
+        String six = "wind 12+high*high-high*20+minute;lamp 45;kite a box at 3 lift 6 least 9 long 18;"
+            + "kite b tail at 90 lift 4 least 50 long 20;kite c heavy at 44 lift 9 least 5 long 19;"
+            + "kite d lazy at 60 lift 3 least 9 long 17;kite e deaf at 20 lift 5 least 20 long 21;"
+            + "kite f plain at 71 lift 2 least 0 long 19;";
+        KiteLamp lamp = new KiteLamp();
+        Model model = new Model();
+        for (int from = 0; from < six.length(); from += 24) {
+            long[] three = Told.packed(six, from);
+            lamp.feed(three[0], three[1], three[2]);
+            model.feed(three[0], three[1], three[2]);
+        }
+        Check.same("the sky of six", lamp.sky(), model.sky());
+        for (int place = 10; place <= 80; place += 14) {
+            for (int high = 12; high <= 24; high += 4) {
+                for (int what = 0; what <= 7; what++) {
+                    Check.same("six: nearest(" + place + ", " + high + ", " + what + ")",
+                        lamp.nearest(place, high, what), model.nearest(place, high, what));
+                }
+            }
+        }
+        for (int away = 0; away <= 12; away += 3) {
+            fewest(lamp, 40, 17, away, 3, model.fewest(40, 17, away, 3));
+            fewest(lamp, 62, 22, away, 3, model.fewest(62, 22, away, 3));
+        }
+    }
+}
