@@ -13,10 +13,6 @@ public final class BoysTest {
         Check.finish("BoysTest");
     }
 
-    private static String kite(String name, String kind, int at, int lift, int least, int length) {
-        return "kite " + name + " " + kind + " at " + at + " lift " + lift + " least " + least + " long " + length + ";";
-    }
-
     /** Lengths of a kite behind each of the next minutes. */
     private static void goes(KiteLamp lamp, int kite, int... lengths) {
         for (int length : lengths) {
@@ -26,7 +22,7 @@ public final class BoysTest {
     }
 
     private static void whistles() {
-        KiteLamp lamp = Told.under("haul 3;" + kite("a", "plain", 1, 1, 0, 10));
+        KiteLamp lamp = Told.under("haul 3;" + Told.kite("a", "plain", 1, 1, 0, 10));
         Check.same("whistle(0, 17)", lamp.whistle(0, 17), true);
         Check.same("its length", lamp.kite(0, 4), 17);
         Check.same("nothing is hauled yet", lamp.kite(0, 1), 10);
@@ -49,8 +45,8 @@ public final class BoysTest {
     }
 
     private static void wrongWhistles() {
-        KiteLamp lamp = Told.under(kite("a", "plain", 1, 1, 0, 10) + kite("b", "deaf", 1, 1, 0, 10)
-            + kite("c", "lazy", 1, 1, 0, 10));
+        KiteLamp lamp = Told.under(Told.kite("a", "plain", 1, 1, 0, 10) + Told.kite("b", "deaf", 1, 1, 0, 10)
+            + Told.kite("c", "lazy", 1, 1, 0, 10));
         int[][] wrong = {{-1, 5}, {3, 5}, {6, 5}, {0, -1}, {0, 41}, {1, 5}, {1, 10}, {Integer.MIN_VALUE, 5},
             {0, Integer.MAX_VALUE}};
         for (int[] call : wrong) {
@@ -64,27 +60,27 @@ public final class BoysTest {
     }
 
     private static void whistlesGoBeforeTheRule() {
-        KiteLamp lamp = Told.under("rule 1;" + kite("a", "plain", 1, 1, 0, 10) + kite("b", "deaf", 1, 1, 0, 10));
+        KiteLamp lamp = Told.under("rule 1;" + Told.kite("a", "plain", 1, 1, 0, 10) + Told.kite("b", "deaf", 1, 1, 0, 10));
         lamp.whistle(0, 7);
         goes(lamp, 0, 8, 7, 8, 9);
         Check.same("the deaf one kept to the rule", lamp.kite(1, 1), 14);
     }
 
     private static void rules() {
-        goes(Told.under("rule 9;" + kite("a", "plain", 1, 1, 0, 10)), 0, 12, 14);
-        goes(Told.under("rule 0-9;" + kite("a", "plain", 1, 1, 0, 3)), 0, 1, 0, 0);
-        goes(Told.under("rule 1;haul 5;" + kite("a", "plain", 1, 1, 0, 10)), 0, 11, 12);
-        goes(Told.under("rule 5;haul 5;" + kite("a", "plain", 1, 1, 0, 37)), 0, 40, 40);
-        goes(Told.under("rule 20-long;haul 3;" + kite("a", "plain", 1, 1, 0, 15)), 0, 18, 20, 20);
-        goes(Told.under("rule 9999*9999*9999*9999;haul 4;" + kite("a", "plain", 1, 1, 0, 20)), 0,
+        goes(Told.under("rule 9;" + Told.kite("a", "plain", 1, 1, 0, 10)), 0, 12, 14);
+        goes(Told.under("rule 0-9;" + Told.kite("a", "plain", 1, 1, 0, 3)), 0, 1, 0, 0);
+        goes(Told.under("rule 1;haul 5;" + Told.kite("a", "plain", 1, 1, 0, 10)), 0, 11, 12);
+        goes(Told.under("rule 5;haul 5;" + Told.kite("a", "plain", 1, 1, 0, 37)), 0, 40, 40);
+        goes(Told.under("rule 20-long;haul 3;" + Told.kite("a", "plain", 1, 1, 0, 15)), 0, 18, 20, 20);
+        goes(Told.under("rule 9999*9999*9999*9999;haul 4;" + Told.kite("a", "plain", 1, 1, 0, 20)), 0,
             9999 * 9999 * 9999 * 9999 < 0 ? 16 : 24);
-        goes(Told.under(kite("a", "plain", 1, 1, 0, 10)), 0, 10, 10);
-        goes(Told.under("rule minute=2;" + kite("a", "plain", 1, 1, 0, 10)), 0, 10, 10, 11, 11);
+        goes(Told.under(Told.kite("a", "plain", 1, 1, 0, 10)), 0, 10, 10);
+        goes(Told.under("rule minute=2;" + Told.kite("a", "plain", 1, 1, 0, 10)), 0, 10, 10, 11, 11);
     }
 
     private static void rulesKnowWhatWasSo() {
         String wind = "wind 10+high;lamp 1;";
-        String one = kite("a", "plain", 30, 5, 0, 10);
+        String one = Told.kite("a", "plain", 30, 5, 0, 10);
         // PULL 10, WIND 20 at its length, HIGH 10, PLACE 34, so lean 4.
         goes(Told.under(wind + "rule pull=10;" + one), 0, 11, 12, 12);
         goes(Told.under(wind + "rule wind=20;" + one), 0, 11, 11);
@@ -92,7 +88,7 @@ public final class BoysTest {
         goes(Told.under(wind + "rule lean=4;" + one), 0, 11, 12, 13, 14, 15, 15, 15);
         goes(Told.under(wind + "rule long=10;" + one), 0, 11, 11);
         // The second boy hauls by where the lamp was before the first one hauled.
-        KiteLamp lamp = Told.under(wind + "rule high=10;" + one + kite("b", "plain", 30, 5, 0, 5));
+        KiteLamp lamp = Told.under(wind + "rule high=10;" + one + Told.kite("b", "plain", 30, 5, 0, 5));
         lamp.run(1);
         Check.same("first", lamp.kite(0, 1), 11);
         Check.same("second", lamp.kite(1, 1), 6);
@@ -100,29 +96,29 @@ public final class BoysTest {
         Check.same("first", lamp.kite(0, 1), 11);
         Check.same("second", lamp.kite(1, 1), 6);
         // lean is below 0 where the lamp hangs on this side of the winch.
-        lamp = Told.under("lamp 1;rule lean<0;" + kite("a", "plain", 10, 5, 0, 20) + kite("b", "plain", 90, 5, 0, 10));
+        lamp = Told.under("lamp 1;rule lean<0;" + Told.kite("a", "plain", 10, 5, 0, 20) + Told.kite("b", "plain", 90, 5, 0, 10));
         lamp.run(1);
         Check.same("lean 4", lamp.kite(0, 1), 20);
         Check.same("lean 14 less 90", lamp.kite(1, 1), 11);
     }
 
     private static void tiredBoysRest() {
-        KiteLamp lamp = Told.under("rule 1;tired 2;" + kite("a", "plain", 1, 1, 0, 10));
+        KiteLamp lamp = Told.under("rule 1;tired 2;" + Told.kite("a", "plain", 1, 1, 0, 10));
         goes(lamp, 0, 11, 12);
         Check.same("hauled twice", lamp.kite(0, 5), 2);
         goes(lamp, 0, 12);
         Check.same("rested", lamp.kite(0, 5), 0);
         goes(lamp, 0, 13, 14, 14, 15);
-        goes(Told.under("rule 1;tired 1;" + kite("a", "plain", 1, 1, 0, 10)), 0, 11, 11, 12, 12);
-        goes(Told.under("rule 1;" + kite("a", "plain", 1, 1, 0, 10)), 0, 11, 12, 13, 14, 15, 15, 16);
+        goes(Told.under("rule 1;tired 1;" + Told.kite("a", "plain", 1, 1, 0, 10)), 0, 11, 11, 12, 12);
+        goes(Told.under("rule 1;" + Told.kite("a", "plain", 1, 1, 0, 10)), 0, 11, 12, 13, 14, 15, 15, 16);
         // Not hauling in minute 1 takes the tiredness off.
-        goes(Told.under("rule not(minute=1);tired 2;" + kite("a", "plain", 1, 1, 0, 10)), 0, 11, 11, 12, 13, 13, 14);
+        goes(Told.under("rule not(minute=1);tired 2;" + Told.kite("a", "plain", 1, 1, 0, 10)), 0, 11, 11, 12, 13, 13, 14);
         // At the end of the line nothing changes, so nobody has hauled.
-        lamp = Told.under("rule 1;tired 2;" + kite("a", "plain", 1, 1, 0, 39));
+        lamp = Told.under("rule 1;tired 2;" + Told.kite("a", "plain", 1, 1, 0, 39));
         goes(lamp, 0, 40, 40);
         Check.same("the line did not change", lamp.kite(0, 5), 0);
         // A tired boy's whistle waits.
-        lamp = Told.under("tired 1;haul 2;" + kite("a", "plain", 1, 1, 0, 10));
+        lamp = Told.under("tired 1;haul 2;" + Told.kite("a", "plain", 1, 1, 0, 10));
         lamp.whistle(0, 13);
         goes(lamp, 0, 12, 12);
         Check.same("the whistle waits", lamp.kite(0, 4), 13);
@@ -131,19 +127,19 @@ public final class BoysTest {
     }
 
     private static void lazyBoysRest() {
-        KiteLamp lamp = Told.under("rule 1;tired 1;" + kite("a", "lazy", 1, 1, 0, 10));
+        KiteLamp lamp = Told.under("rule 1;tired 1;" + Told.kite("a", "lazy", 1, 1, 0, 10));
         goes(lamp, 0, 11, 11, 12, 12);
         Check.same("rested", lamp.kite(0, 5), 0);
         goes(lamp, 0, 13);
         Check.same("hauled", lamp.kite(0, 5), 1);
-        lamp = Told.under(kite("a", "lazy", 1, 1, 0, 10));
+        lamp = Told.under(Told.kite("a", "lazy", 1, 1, 0, 10));
         lamp.run(1);
         lamp.whistle(0, 20);
         goes(lamp, 0, 10, 12, 12, 14);
     }
 
     private static void lostAndFound() {
-        KiteLamp lamp = Told.under("rule 1;haul 1;" + kite("a", "plain", 1, 1, 0, 10) + kite("b", "box", 1, 1, 0, 10));
+        KiteLamp lamp = Told.under("rule 1;haul 1;" + Told.kite("a", "plain", 1, 1, 0, 10) + Told.kite("b", "box", 1, 1, 0, 10));
         lamp.run(2);
         lamp.whistle(0, 30);
         Check.same("lose(0, true) of one that is there", lamp.lose(0, true), false);
@@ -171,7 +167,7 @@ public final class BoysTest {
     }
 
     private static void wrongRuns() {
-        KiteLamp lamp = Told.under("rule 1;tired 20;" + kite("a", "plain", 1, 1, 0, 0));
+        KiteLamp lamp = Told.under("rule 1;tired 20;" + Told.kite("a", "plain", 1, 1, 0, 0));
         int[] wrong = {0, -1, 1001, Integer.MIN_VALUE, Integer.MAX_VALUE};
         for (int minutes : wrong) {
             Check.same("run(" + minutes + ")", lamp.run(minutes), -1);

@@ -11,6 +11,7 @@ public final class LengthsTest {
         wrongNearest();
         fewestByOne();
         fewestByMany();
+        placesAtTheEnds();
         wrongFewest();
         allStaysAsItIs();
         sixKitesAgainstTheModel();
@@ -126,6 +127,21 @@ public final class LengthsTest {
         fewest(lamp, 24, 12, 0, 2, 2);
         fewest(lamp, 24, 9, 0, 1, 1);
         fewest(lamp, 24, 11, 1, 1, 0);
+    }
+
+    private static void placesAtTheEnds() {
+        fewest(Told.under("wind 99*(high=40);lamp 0;"), 19, 40, 0, 1, 0);
+        fewest(Told.under("wind 99*(high=0);"), 19, 0, 0, 1, 0);
+        fewest(Told.under("wind 99;lamp 4;" + kite("a", 99, 5, 0, 40)), 118, 40, 0, 1, 0);
+        fewest(Told.under("wind 99;lamp 4;" + kite("a", 99, 5, 0, 40)), 119, 40, 0, 1, -1);
+        fewest(Told.under("wind 99;lamp 4;" + kite("a", 99, 5, 0, 40)), 119, 40, 1, 1, 0);
+        KiteLamp lamp = Told.under("wind 10;lamp 1;" + kite("a", 30, 1, 0, 9));
+        nearest(lamp, 32, 9, 0, 0, 9);
+        lamp = Told.under("lamp 0;" + kite("a", 30, 1, 0, 38));
+        // From a line of 40 on the kite leans where the lamp without weight hangs.
+        nearest(lamp, 34, 40, 0, 1, 40);
+        nearest(lamp, 4, 40, 0, 0, 38);
+        nearest(Told.under("lamp 4;" + kite("a", 30, 5, 0, 0)), 4, 0, 0, 0, 0);
     }
 
     private static void wrongFewest() {

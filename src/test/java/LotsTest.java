@@ -4,6 +4,7 @@ public final class LotsTest {
         draws();
         eachNightIsFromNowOn();
         gustsMoveTheBoys();
+        elsewhereTheGustIsNone();
         wrongLots();
         allStaysAsItIs();
         Check.finish("LotsTest");
@@ -65,6 +66,26 @@ public final class LotsTest {
         lots(lamp, 1, 1, 6, 12, 4, 10);
         lots(lamp, 1, 1, 7, 13, 1, 10);
         lots(lamp, 1, 3, 2, 11, 1, 10);
+    }
+
+    private static void elsewhereTheGustIsNone() {
+        // Any gust would still the wind.
+        KiteLamp lamp = Told.under("wind 20*(gust=0);gusts 50;lamp 4;rule wind=20;"
+            + "kite a plain at 10 lift 5 least 20 long 10;kite b plain at 10 lift 5 least 20 long 10;");
+        Check.same("kite(0, 2)", lamp.kite(0, 2), 10);
+        Check.same("kite(0, 3)", lamp.kite(0, 3), 0);
+        Check.same("wind(7)", lamp.wind(7), 20);
+        Check.same("lamp(3, 0)", Told.lamp(lamp, 3, 0), 14);
+        Check.same("nearest(14, 12, 0)", lamp.nearest(14, 12, 0), 0);
+        Check.same("fewest(14, 12, 0, 2)", lamp.fewest(14, 12, 0, 2), 1);
+        Check.same("holds(14, 10, 2, 9)", lamp.holds(14, 10, 2, 9), 3);
+        Check.same("mayGo(10)", lamp.mayGo(10), 3);
+        Check.same("needed(10, 0)", lamp.needed(10, 0), 1);
+        Check.same("mean(9, 0)", lamp.mean(9, 0), 14);
+        lamp.note(0, 14, 10);
+        Check.same("fits()", lamp.fits(), 3);
+        lamp.run(2);
+        Check.same("kite(0, 1)", lamp.kite(0, 1), 12);
     }
 
     private static void wrongLots() {

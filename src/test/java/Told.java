@@ -30,6 +30,10 @@ final class Told {
         return lamp.sky();
     }
 
+    static String kite(String name, String kind, int at, int lift, int least, int length) {
+        return "kite " + name + " " + kind + " at " + at + " lift " + lift + " least " + least + " long " + length + ";";
+    }
+
     static KiteLamp under(String text) {
         KiteLamp lamp = new KiteLamp();
         Check.same("the sky " + text, sky(lamp, text), 0);
