@@ -924,7 +924,7 @@ public final class KiteLamp {
             }
         }
 
-        /** All words up to here have a meaning of their own and name no kite. */
+        /** The words up to "or" have a meaning of their own and name no kite; facts of a law may. */
         static boolean isName(int token) {
             return token > OR && token <= OTHER_WORD;
         }
