@@ -183,8 +183,11 @@ public final class KiteLamp {
         air.feel(now, now.minute, 0);
         int bits = 0;
         for (int k = 0; k < now.sky.kites; k++) {
-            air.hang(now, now.lost | 1 << k);
-            bits |= air.high >= high ? 1 << k : 0;
+            // A LOST kite is gone already, so it is none that may go.
+            if (!now.isLost(k)) {
+                air.hang(now, now.lost | 1 << k);
+                bits |= air.high >= high ? 1 << k : 0;
+            }
         }
         return bits;
     }

@@ -579,7 +579,7 @@ final class Model {
         }
         int bits = 0;
         for (int k = 0; k < now.kites.size(); k++) {
-            if (lampWithout(lostBits() | 1 << k, now.minute).high >= high) {
+            if (!now.kites.get(k).lost && lampWithout(lostBits() | 1 << k, now.minute).high >= high) {
                 bits |= 1 << k;
             }
         }

@@ -33,15 +33,23 @@ public final class SetsTest {
         mayGo(lamp, Integer.MIN_VALUE, -1);
         mayGo(lamp, Integer.MAX_VALUE, -1);
         lamp.lose(2, false);
-        // Without one that is LOST already all is as it is: HIGH 20.
-        mayGo(lamp, 20, 5);
-        mayGo(lamp, 12, 7);
-        mayGo(lamp, 13, 5);
+        // One that is LOST is gone already and never among them, though HIGH is 20 without it.
+        mayGo(lamp, 20, 1);
+        mayGo(lamp, 12, 3);
+        mayGo(lamp, 13, 1);
         lamp.lose(0, false);
-        mayGo(lamp, 0, 7);
-        mayGo(lamp, 20, 5);
+        mayGo(lamp, 0, 2);
+        mayGo(lamp, 1, 0);
+        mayGo(lamp, 20, 0);
         mayGo(lamp, 21, 0);
         Check.same("LOST ones", lamp.count(6), 2);
+        lamp.lose(1, false);
+        mayGo(lamp, 0, 0);
+        mayGo(lamp, 41, -1);
+        // FOUND it is there again, SLACK with its line of length 0.
+        lamp.lose(2, true);
+        mayGo(lamp, 0, 4);
+        mayGo(lamp, 1, 0);
     }
 
     private static void needed(KiteLamp lamp, int high, int many, int which) {
