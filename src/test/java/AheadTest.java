@@ -4,10 +4,15 @@ public final class AheadTest {
 
     public static void main(String[] args) {
         holds();
+        holdsAtTheEnds();
+        holdsWithLostOnes();
         wrongHolds();
         means();
+        meansInLowestTerms();
         wrongMeans();
         down();
+        downBySix();
+        downByTheHaulExactly();
         downByTiredAndLazyBoys();
         allStaysAsItIs();
         Check.finish("AheadTest");
@@ -44,6 +49,49 @@ public final class AheadTest {
         holds(lamp, 0, 40, 0, 240, 5);
         holds(lamp, 0, 40, 18, 240, 95);
         holds(lamp, 0, 40, 19, 240, -1);
+    }
+
+    private static void holdsAtTheEnds() {
+        // The rule never moves it: HIGH 10 and PLACE 14 for ever.
+        KiteLamp lamp = Told.under("lamp 4;kite a plain at 10 lift 5 least 0 long 10;");
+        holds(lamp, 0, 0, 24, 240, -1);
+        holds(lamp, 0, 0, 23, 240, 0);
+        holds(lamp, 0, 40, 44, 1, -1);
+        holds(lamp, 0, 40, 43, 1, 0);
+        holds(lamp, 999, 10, 985, 240, -1);
+        holds(lamp, 999, 10, 984, 240, 0);
+        holds(lamp, 999, 40, 999, 1, 0);
+        holds(lamp, 14, 10, 0, 240, -1);
+        // In the last of 240 minutes, and one too late.
+        lamp = Told.under("wind 20+99*(minute=239);lamp 0;");
+        holds(lamp, 4, 40, 0, 240, 239);
+        holds(lamp, 4, 40, 0, 239, -1);
+        lamp = Told.under("wind 20+99*(minute=240);lamp 0;");
+        holds(lamp, 4, 40, 0, 240, -1);
+        lamp.run(1);
+        holds(lamp, 4, 40, 0, 240, 239);
+    }
+
+    private static void holdsWithLostOnes() {
+        KiteLamp lamp = Told.under(RISING + "kite b plain at 90 lift 9 least 0 long 30;");
+        lamp.lose(1, false);
+        holds(lamp, 14, 10, 1, 240, 2);
+        means(lamp, 9, 14, 1, 14, 14);
+        lamp.lose(0, false);
+        holds(lamp, 4, 0, 0, 240, -1);
+        means(lamp, 240, 4, 1, 4, 4);
+    }
+
+    private static void meansInLowestTerms() {
+        means(Told.under("wind 0;"), 240, 0, 1, 0, 0);
+        means(Told.under("wind 0;"), 7, 0, 1, 0, 0);
+        // 1 in the last of so many minutes, else 0.
+        means(Told.under("wind 5*(minute=239);"), 240, 1, 240, 0, 1);
+        means(Told.under("wind 5*(minute=239);"), 239, 0, 1, 0, 0);
+        means(Told.under("wind 20*(minute=5);"), 6, 2, 3, 0, 4);
+        means(Told.under("wind 30*(minute=3);"), 4, 3, 2, 0, 6);
+        // The greatest PLACE that can be: 99 and 99 by 5.
+        means(Told.under("wind 99;lamp 1;kite a plain at 99 lift 5 least 0 long 10;"), 240, 118, 1, 118, 118);
     }
 
     private static void wrongHolds() {
@@ -114,6 +162,40 @@ public final class AheadTest {
         Check.same("down() with both LOST", lamp.down(), 0);
     }
 
+    private static void downBySix() {
+        StringBuilder six = new StringBuilder("haul 2;tired 20;");
+        String[] kinds = {"plain", "box", "tail", "heavy", "deaf", "lazy"};
+        for (int k = 0; k < 6; k++) {
+            six.append(Told.kite("k" + (char) ('a' + k), kinds[k], 1, 1, 99, k == 5 ? 6 : 10 + 2 * k));
+        }
+        KiteLamp lamp = Told.under(six.toString());
+        // 18 by 2 of the deaf one; the lazy one hauls in minutes 0, 2 and 4.
+        Check.same("down() of six", lamp.down(), 9);
+        lamp.lose(4, false);
+        Check.same("down() of five", lamp.down(), 8);
+        lamp.lose(3, false);
+        lamp.lose(2, false);
+        lamp.lose(1, false);
+        lamp.lose(0, false);
+        Check.same("down() of the lazy one", lamp.down(), 5);
+        lamp.lose(4, true);
+        Check.same("down() with one FOUND at 0", lamp.down(), 5);
+        lamp.lose(5, false);
+        Check.same("down() of the one at 0", lamp.down(), 0);
+        Check.same("LOST ones stay", lamp.count(6), 5);
+    }
+
+    private static void downByTheHaulExactly() {
+        Check.same("down() of 5 by 5", one("haul 5;", "plain", 5).down(), 1);
+        Check.same("down() of 6 by 5", one("haul 5;", "plain", 6).down(), 2);
+        Check.same("down() of 1 by 5", one("haul 5;", "plain", 1).down(), 1);
+        Check.same("down() of 40 by 5", one("haul 5;tired 20;", "plain", 40).down(), 8);
+        Check.same("down() of 40 by 2, tired 20", one("tired 20;", "plain", 40).down(), 20);
+        Check.same("down() of 40 by 1, tired 20", one("haul 1;tired 20;", "plain", 40).down(), 41);
+        Check.same("down() of 20 by 1, tired 20", one("haul 1;tired 20;", "plain", 20).down(), 20);
+        Check.same("down() of 21 by 1, tired 20", one("haul 1;tired 20;", "plain", 21).down(), 22);
+    }
+
     private static void downByTiredAndLazyBoys() {
         Check.same("down() of 40 by 1, tired 1", one("haul 1;tired 1;", "plain", 40).down(), 79);
         Check.same("down() of 40 by 1, lazy", one("haul 1;", "lazy", 40).down(), 79);
@@ -128,6 +210,15 @@ public final class AheadTest {
         lamp.run(2);
         // 13, hauled once: h r h h r h h r h h.
         Check.same("down() by one who hauled once", lamp.down(), 10);
+        lamp = one("haul 1;tired 1;", "lazy", 40);
+        Check.same("down() of 40 by 1, lazy and tired 1", lamp.down(), 79);
+        lamp.run(1);
+        Check.same("down() of 40 by 1, lazy and tired 1, from 1 on", lamp.down(), 80);
+        // At length 0 a tired boy has nothing to rest from.
+        lamp = one("rule 0-1;haul 1;tired 2;", "plain", 2);
+        lamp.run(2);
+        Check.same("tired at 0", lamp.kite(0, 5), 2);
+        Check.same("down() of a tired one at 0", lamp.down(), 0);
     }
 
     private static void allStaysAsItIs() {

@@ -2,13 +2,20 @@
 public final class BoysTest {
     public static void main(String[] args) {
         whistles();
+        whistlesForTheEnds();
         wrongWhistles();
+        aRefusedWhistleLeavesTheOther();
         whistlesGoBeforeTheRule();
         rules();
+        rulesAtTheEndsOfAnInt();
         rulesKnowWhatWasSo();
+        rulesWithoutALawOfWind();
         tiredBoysRest();
+        aWhistleTakesNoTirednessOff();
         lazyBoysRest();
+        sixBoysEachByHimself();
         lostAndFound();
+        lostWhileTired();
         wrongRuns();
         Check.finish("BoysTest");
     }
@@ -44,6 +51,42 @@ public final class BoysTest {
         goes(lamp, 0, 17);
     }
 
+    private static void whistlesForTheEnds() {
+        KiteLamp lamp = Told.under("haul 5;tired 20;" + Told.kite("a", "plain", 1, 1, 0, 3) + Told.kite("b", "box", 1, 1, 0, 36));
+        Check.same("whistle(0, 0)", lamp.whistle(0, 0), true);
+        Check.same("whistle(1, 40)", lamp.whistle(1, 40), true);
+        Check.same("its length is 0", lamp.kite(0, 4), 0);
+        lamp.run(1);
+        Check.same("in", lamp.kite(0, 1), 0);
+        Check.same("out", lamp.kite(1, 1), 40);
+        Check.same("over at 0", lamp.kite(0, 4), -1);
+        Check.same("over at 40", lamp.kite(1, 4), -1);
+        // As far as the haul goes exactly, and one farther.
+        lamp = Told.under("haul 3;" + Told.kite("a", "plain", 1, 1, 0, 10) + Told.kite("b", "plain", 1, 1, 0, 10));
+        lamp.whistle(0, 13);
+        lamp.whistle(1, 6);
+        lamp.run(1);
+        Check.same("13 is there", lamp.kite(0, 1), 13);
+        Check.same("over", lamp.kite(0, 4), -1);
+        Check.same("6 is not there", lamp.kite(1, 1), 7);
+        Check.same("not over", lamp.kite(1, 4), 6);
+    }
+
+    private static void aRefusedWhistleLeavesTheOther() {
+        KiteLamp lamp = Told.under(Told.kite("a", "plain", 1, 1, 0, 10));
+        lamp.whistle(0, 20);
+        Check.same("whistle(0, 41)", lamp.whistle(0, 41), false);
+        Check.same("whistle(0, -1)", lamp.whistle(0, -1), false);
+        Check.same("whistle(1, 5)", lamp.whistle(1, 5), false);
+        Check.same("the whistle that is there", lamp.kite(0, 4), 20);
+        goes(lamp, 0, 12);
+        Check.same("lose(0, true) is refused", lamp.lose(0, true), false);
+        Check.same("the whistle that is there", lamp.kite(0, 4), 20);
+        Check.same("hauled", lamp.kite(0, 5), 1);
+        Check.same("run(0) is refused", lamp.run(0), -1);
+        Check.same("nothing was hauled by it", lamp.kite(0, 1), 12);
+    }
+
     private static void wrongWhistles() {
         KiteLamp lamp = Told.under(Told.kite("a", "plain", 1, 1, 0, 10) + Told.kite("b", "deaf", 1, 1, 0, 10)
             + Told.kite("c", "lazy", 1, 1, 0, 10));
@@ -76,6 +119,98 @@ public final class BoysTest {
             9999 * 9999 * 9999 * 9999 < 0 ? 16 : 24);
         goes(Told.under(Told.kite("a", "plain", 1, 1, 0, 10)), 0, 10, 10);
         goes(Told.under("rule minute=2;" + Told.kite("a", "plain", 1, 1, 0, 10)), 0, 10, 10, 11, 11);
+    }
+
+    private static void rulesAtTheEndsOfAnInt() {
+        String one = Told.kite("a", "plain", 1, 1, 0, 20);
+        goes(Told.under("rule 2048*1024*1024;haul 5;" + one), 0, 15);
+        goes(Told.under("rule 2048*1024*1024-1;haul 5;" + one), 0, 25);
+        // As much as the haul exactly, one less and one more, either way.
+        goes(Told.under("rule 3;haul 3;" + one), 0, 23);
+        goes(Told.under("rule 2;haul 3;" + one), 0, 22);
+        goes(Told.under("rule 4;haul 3;" + one), 0, 23);
+        goes(Told.under("rule 0-3;haul 3;" + one), 0, 17);
+        goes(Told.under("rule 0-2;haul 3;" + one), 0, 18);
+        goes(Told.under("rule 0-4;haul 3;" + one), 0, 17);
+        goes(Told.under("rule 0;haul 3;" + one), 0, 20, 20);
+    }
+
+    private static void rulesWithoutALawOfWind() {
+        // WIND is 20 everywhere: PULL 10, HIGH 11 less one for the SLACK kite, PLACE 34.
+        String sky = Told.kite("a", "plain", 30, 5, 0, 11) + Told.kite("b", "plain", 30, 5, 99, 11);
+        goes(Told.under("lamp 1;rule high=10;" + sky), 0, 12, 12);
+        goes(Told.under("lamp 1;rule wind=20;" + sky), 0, 12, 13);
+        goes(Told.under("lamp 1;rule pull=10;" + sky), 0, 12, 13);
+        goes(Told.under("lamp 1;rule pull=0;" + sky), 1, 12, 13);
+        goes(Told.under("lamp 1;rule lean=4;" + sky), 0, 12, 13);
+        goes(Told.under("lamp 1;rule minute=1;" + sky), 0, 11, 12, 12);
+        goes(Told.under("lamp 1;rule long=11;" + sky), 0, 12, 12);
+    }
+
+    private static void aWhistleTakesNoTirednessOff() {
+        KiteLamp lamp = Told.under("tired 3;haul 1;" + Told.kite("a", "plain", 1, 1, 0, 10));
+        lamp.whistle(0, 12);
+        goes(lamp, 0, 11, 12);
+        lamp.whistle(0, 20);
+        Check.same("hauled twice still", lamp.kite(0, 5), 2);
+        goes(lamp, 0, 13, 13, 14);
+        // The other way counts as hauling, too.
+        lamp.whistle(0, 0);
+        goes(lamp, 0, 13, 12, 12, 11);
+        lamp.whistle(0, 11);
+        Check.same("over at once", lamp.kite(0, 4), -1);
+        Check.same("hauled once still", lamp.kite(0, 5), 1);
+    }
+
+    private static void sixBoysEachByHimself() {
+        StringBuilder sky = new StringBuilder("tired 2;haul 3;");
+        String[] kinds = {"plain", "box", "tail", "heavy", "deaf", "lazy"};
+        for (int k = 0; k < 6; k++) {
+            sky.append(Told.kite("k" + (char) ('a' + k), kinds[k], 1, 1, 0, 10 + k));
+        }
+        KiteLamp lamp = Told.under(sky.toString());
+        for (int k = 0; k < 6; k++) {
+            int length = k == 5 ? 20 : 20 - k;
+            Check.same("whistle(" + k + ", " + length + ")", lamp.whistle(k, length), k != 4);
+        }
+        // In minute 2 the tired ones rest, the lazy one rests in minutes 1 and 3, the deaf one heard nothing.
+        int[][] lengths = {{13, 16, 16, 19}, {14, 17, 17, 19}, {15, 18, 18, 18}, {16, 17, 17, 17}, {14, 14, 14, 14},
+            {18, 18, 20, 20}};
+        int[][] hauled = {{1, 2, 0, 1}, {1, 2, 0, 1}, {1, 2, 0, 0}, {1, 2, 0, 0}, {0, 0, 0, 0}, {1, 0, 1, 0}};
+        for (int minute = 0; minute < 4; minute++) {
+            lamp.run(1);
+            for (int k = 0; k < 6; k++) {
+                Check.same("length of " + k + " behind minute " + minute, lamp.kite(k, 1), lengths[k][minute]);
+                Check.same("hauled of " + k + " behind minute " + minute, lamp.kite(k, 5), hauled[k][minute]);
+            }
+        }
+        Check.same("still whistled", lamp.kite(0, 4), 20);
+        for (int k = 1; k < 6; k++) {
+            Check.same("no whistle for " + k, lamp.kite(k, 4), -1);
+        }
+    }
+
+    private static void lostWhileTired() {
+        KiteLamp lamp = Told.under("rule 1;tired 2;" + Told.kite("a", "plain", 1, 1, 0, 10) + Told.kite("b", "deaf", 1, 1, 0, 0));
+        lamp.run(2);
+        Check.same("tired", lamp.kite(0, 5), 2);
+        lamp.lose(0, false);
+        Check.same("not tired any more", lamp.kite(0, 5), 0);
+        Check.same("its length is kept", lamp.kite(0, 1), 12);
+        lamp.lose(0, true);
+        // Not tired, he hauls at once, while the other one rests.
+        lamp.run(1);
+        Check.same("hauls from 0", lamp.kite(0, 1), 1);
+        Check.same("rests", lamp.kite(1, 1), 2);
+        Check.same("no whistle came back", lamp.kite(0, 4), -1);
+        Check.same("a deaf one is LOST by hand", lamp.lose(1, false), true);
+        Check.same("a deaf one is FOUND", lamp.lose(1, true), true);
+        Check.same("with length 0", lamp.kite(1, 1), 0);
+        // FOUND with a length of 0: a whistle for 0 is over at once.
+        lamp.lose(0, false);
+        lamp.lose(0, true);
+        Check.same("whistle(0, 0)", lamp.whistle(0, 0), true);
+        Check.same("over at once", lamp.kite(0, 4), -1);
     }
 
     private static void rulesKnowWhatWasSo() {

@@ -3,12 +3,18 @@ public final class LampTest {
     public static void main(String[] args) {
         kinds();
         whatFliesAndPulls();
+        eachOfSixByItself();
         wrongKites();
         winds();
         whereTheLampHangs();
+        leansByTheRawHeight();
+        eachPartIsCutByItself();
         slackKitesDropIt();
         aLampWithoutWeight();
+        theHeaviestLamp();
+        minutesThatAreNotNow();
         wrongMinutes();
+        beyondTheLastMinute();
         Check.finish("LampTest");
     }
 
@@ -49,6 +55,18 @@ public final class LampTest {
         pulls("20", "heavy", 10, 20, 5, 17, 0);
         pulls("20", "heavy", 1, 0, 5, 0, 0);
         pulls("20", "heavy", 2, 0, 5, 1, 0);
+        pulls("10", "heavy", 3, 0, 5, 0, 0);
+        pulls("10", "heavy", 4, 0, 5, 1, 0);
+        pulls("0", "heavy", 20, 0, 5, 0, 0);
+        pulls("39", "heavy", 10, 40, 5, 0, 1);
+        pulls("99", "box", 20, 99, 40, 396, 0);
+        pulls("41", "box", 1, 42, 5, 0, 1);
+        pulls("0", "tail", 20, 1, 1, 0, 0);
+        pulls("49", "tail", 10, 99, 1, 49, 0);
+        pulls("48", "tail", 10, 99, 1, 0, 1);
+        pulls("99", "tail", 20, 0, 0, 0, 1);
+        pulls("9", "plain", 1, 0, 1, 0, 0);
+        pulls("10", "plain", 1, 0, 1, 1, 0);
         pulls("50", "deaf", 2, 0, 5, 10, 0);
         pulls("50", "lazy", 2, 51, 5, 0, 1);
         KiteLamp lamp = Told.under("wind 30;" + Told.kite("a", "plain", 1, 5, 0, 9));
@@ -62,6 +80,25 @@ public final class LampTest {
         lamp.run(2);
         Check.same("FLIES in minute 2", lamp.kite(0, 3), 0);
         Check.same("PULL in minute 2", lamp.kite(0, 2), 20);
+    }
+
+    private static void eachOfSixByItself() {
+        // WIND is 10 and the length: b hangs SLACK by its least, d by its length, f is LOST.
+        KiteLamp lamp = Told.under("wind 10+high;" + Told.kite("a", "plain", 1, 10, 15, 5)
+            + Told.kite("b", "plain", 1, 10, 17, 6) + Told.kite("c", "box", 1, 10, 40, 30)
+            + Told.kite("d", "tail", 1, 10, 0, 0) + Told.kite("e", "heavy", 1, 10, 18, 8)
+            + Told.kite("f", "lazy", 1, 10, 0, 9));
+        lamp.lose(5, false);
+        int[] pulls = {15, 0, 80, 0, 15, 0};
+        int[] states = {0, 1, 0, 1, 0, 2};
+        for (int k = 0; k < 6; k++) {
+            Check.same("kite(" + k + ", 2) of six", lamp.kite(k, 2), pulls[k]);
+            Check.same("kite(" + k + ", 3) of six", lamp.kite(k, 3), states[k]);
+        }
+        Check.same("kite(6, 3) of six", lamp.kite(6, 3), -1);
+        Check.same("whistle(4, 0)", lamp.whistle(4, 0), true);
+        Check.same("a whistle for 0 is one", lamp.kite(4, 4), 0);
+        Check.same("the others have none", lamp.kite(3, 4), -1);
     }
 
     private static void wrongKites() {
@@ -118,6 +155,66 @@ public final class LampTest {
         lamp.lose(0, false);
         hangs(lamp, 5, 5, 0, 0);
         Check.same("no minute goes by", lamp.count(1), 0);
+    }
+
+    private static void leansByTheRawHeight() {
+        String slack = Told.kite("x", "plain", 0, 20, 99, 40);
+        // b's line is as long as HIGH, but shorter than the raw height: it does not count.
+        hangs(Told.under("lamp 4;" + Told.kite("a", "plain", 10, 2, 0, 16) + Told.kite("b", "plain", 90, 2, 0, 15) + slack),
+            0, 10 + 4, 15, 16);
+        hangs(Told.under("lamp 4;" + Told.kite("a", "plain", 10, 2, 0, 16) + Told.kite("b", "plain", 90, 2, 0, 16) + slack),
+            0, 50 + 4, 15, 16);
+        // At the raw height 0 lines of any length count, also those that pull nothing.
+        hangs(Told.under("lamp 5;" + Told.kite("a", "plain", 10, 2, 0, 1) + Told.kite("b", "plain", 90, 2, 0, 0)),
+            0, 10 + 4, 0, 0);
+    }
+
+    private static void eachPartIsCutByItself() {
+        // (4 * 10 + 5 * 11) / 9 is 10 and 5 ninths, 24 / 5 is 4 and 4 fifths: together they would be over 15.
+        hangs(Told.under("wind 24;lamp 1;" + Told.kite("a", "plain", 10, 2, 0, 9) + Told.kite("b", "plain", 11, 2, 0, 9)),
+            0, 10 + 4, 9, 9);
+        hangs(Told.under("wind 4;"), 0, 0, 0, 0);
+        hangs(Told.under("wind 5;"), 0, 1, 0, 0);
+        hangs(Told.under("wind 999;"), 0, 19, 0, 0);
+    }
+
+    private static void theHeaviestLamp() {
+        // Six boxes pull 396 each in the strongest wind: three hold 999, two do not.
+        String two = Told.kite("a", "box", 99, 20, 99, 40) + Told.kite("b", "box", 99, 20, 99, 40);
+        hangs(Told.under("wind 99;lamp 999;" + two), 0, 99 + 19, 0, 0);
+        hangs(Told.under("wind 99;lamp 999;" + two + Told.kite("c", "box", 99, 20, 99, 39)), 0, 99 + 19, 39, 39);
+        hangs(Told.under("wind 99;lamp 792;" + two), 0, 99 + 19, 40, 40);
+        hangs(Told.under("wind 99;lamp 793;" + two), 0, 99 + 19, 0, 0);
+        hangs(Told.under("lamp 20;" + Told.kite("a", "plain", 9, 10, 0, 1)), 0, 9 + 4, 1, 1);
+        // A weight that is not told is 20.
+        hangs(Told.under(Told.kite("a", "plain", 9, 10, 0, 1)), 0, 9 + 4, 1, 1);
+        hangs(Told.under("wind 19;" + Told.kite("a", "plain", 9, 10, 0, 1)), 0, 9 + 3, 0, 0);
+    }
+
+    private static void minutesThatAreNotNow() {
+        KiteLamp lamp = Told.under("wind 20+minute*5;lamp 4;rule 1;" + Told.kite("a", "plain", 7, 5, 0, 12));
+        lamp.run(3);
+        // Lengths are those of now, in whatever minute.
+        hangs(lamp, 0, 7 + 4, 15, 15);
+        hangs(lamp, 3, 7 + 7, 15, 15);
+        hangs(lamp, 10, 7 + 14, 15, 15);
+        Check.same("the minute stays", lamp.count(1), 3);
+        Check.same("the length stays", lamp.kite(0, 1), 15);
+    }
+
+    private static void beyondTheLastMinute() {
+        KiteLamp lamp = Told.under("wind minute-9990;lamp 0;");
+        for (int i = 0; i < 10; i++) {
+            lamp.run(1000);
+        }
+        Check.same("count(1)", lamp.count(1), 10000);
+        Check.same("wind(0) in minute 10000", lamp.wind(0), 10);
+        Check.same("lamp(10000, 0) though it is now", Told.lamp(lamp, 10000, 0), Told.THROWS);
+        hangs(lamp, 9999, 1, 40, 40);
+        Check.same("note(10000, 2, 40) though it is now", lamp.note(10000, 2, 40), -1);
+        Check.same("holds(2, 40, 0, 6)", lamp.holds(2, 40, 0, 6), 5);
+        Check.same("mean(10, 0)", lamp.mean(10, 0), 5);
+        Check.same("mean(10, 1)", lamp.mean(10, 1), 2);
     }
 
     private static void slackKitesDropIt() {

@@ -6,12 +6,19 @@ public final class LengthsTest {
     public static void main(String[] args) {
         nearestByOne();
         nearestTakesTheFewestThenTheFirst();
+        nearestTakesTheShorterOfTwo();
         nearestKeepsToTheLine();
+        nearestKnowsSlackKites();
+        nearestIsOfNow();
         nearestLeavesLostOnes();
         wrongNearest();
         fewestByOne();
         fewestByMany();
+        fewestKnowsSlackKites();
+        fewestBehindNearest();
+        fewestKeepsToTheLine();
         placesAtTheEnds();
+        endsOfWhatMayBeAsked();
         wrongFewest();
         allStaysAsItIs();
         sixKitesAgainstTheModel();
@@ -47,6 +54,62 @@ public final class LengthsTest {
         nearest(lamp, 14, 11, 0, 1, 10, 11);
         nearest(lamp, 14, 9, 0, 2, 8, 9);
         nearest(lamp, 14, 10, 0, 0, 10, 10);
+    }
+
+    private static void nearestTakesTheShorterOfTwo() {
+        // At a length of 10 there is no wind: at 9 and at 11 it is as near, and 9 is the first.
+        KiteLamp lamp = Told.under("wind 20*not(high=10);lamp 4;" + kite("a", 10, 5, 1, 10));
+        nearest(lamp, 14, 10, 1, 1, 9);
+        nearest(lamp, 14, 11, 0, 1, 11);
+        // Kite 0 least first, then kite 1: 9 and 11 come before 11 and 9.
+        lamp = Told.under("wind 20*not(high=10);lamp 15;" + kite("a", 10, 5, 1, 10) + kite("b", 10, 5, 1, 10));
+        nearest(lamp, 14, 9, 0, 2, 9, 9);
+        nearest(lamp, 14, 11, 0, 2, 11, 11);
+        nearest(lamp, 14, 10, 1, 2, 9, 9);
+        // The fewest changed go before the first: kite 1 alone, though kite 0 could be shorter, too.
+        lamp = Told.under("lamp 4;" + kite("a", 10, 5, 0, 10) + kite("b", 10, 5, 0, 12));
+        nearest(lamp, 14, 13, 0, 1, 10, 13);
+        nearest(lamp, 14, 11, 0, 1, 10, 11);
+        nearest(lamp, 14, 10, 0, 1, 10, 10);
+        nearest(lamp, 14, 9, 1, 1, 10, 10);
+    }
+
+    private static void nearestKnowsSlackKites() {
+        // The second hangs SLACK whatever its length, and drops the lamp by one.
+        KiteLamp lamp = Told.under("lamp 4;" + kite("a", 10, 5, 0, 12) + kite("b", 30, 5, 99, 20));
+        nearest(lamp, 14, 11, 0, 0, 12, 20);
+        nearest(lamp, 14, 12, 0, 1, 13, 20);
+        nearest(lamp, 14, 13, 0, 1, 14, 20);
+        nearest(lamp, 14, 14, 1, 1, 14, 20);
+        nearest(lamp, 14, 9, 0, 1, 10, 20);
+        nearest(lamp, 14, 8, 1, 1, 10, 20);
+        // One that is let out flies, too weak to hold the lamp, but HIGH is not dropped any more: 12 and 13 come before
+        // 13 and 12, by which it is as near.
+        lamp = Told.under("wind 10+high;lamp 4;" + kite("a", 10, 5, 0, 12) + kite("b", 10, 1, 23, 12));
+        nearest(lamp, 14, 12, 0, 1, 12, 13);
+        nearest(lamp, 14, 13, 0, 1, 14, 12);
+        // Two SLACK ones of three, and HIGH is 0 at least.
+        lamp = Told.under("lamp 4;" + kite("a", 10, 5, 0, 1) + kite("b", 10, 5, 99, 9) + kite("c", 10, 5, 0, 0));
+        nearest(lamp, 14, 0, 0, 0, 1, 9, 0);
+        nearest(lamp, 14, 1, 0, 1, 1, 9, 2);
+        nearest(lamp, 14, 2, 0, 2, 3, 9, 1);
+    }
+
+    private static void nearestIsOfNow() {
+        KiteLamp lamp = Told.under("wind 20+minute*5;lamp 4;rule minute<2;" + kite("a", 10, 5, 0, 12));
+        nearest(lamp, 14, 12, 0, 0, 12);
+        fewest(lamp, 14, 13, 0, 1, 1);
+        lamp.run(2);
+        // Two minutes on the line is 14 long and the wind 30.
+        nearest(lamp, 16, 14, 0, 0, 14);
+        nearest(lamp, 14, 12, 2, 1, 12);
+        nearest(lamp, 16, 17, 1, 1, 16);
+        fewest(lamp, 16, 11, 0, 3, 1);
+        fewest(lamp, 16, 10, 0, 3, -1);
+        lamp.whistle(0, 40);
+        // A whistle that is not hauled for yet changes nothing.
+        nearest(lamp, 16, 14, 0, 0, 14);
+        fewest(lamp, 16, 14, 0, 1, 0);
     }
 
     private static void nearestKeepsToTheLine() {
@@ -127,6 +190,65 @@ public final class LengthsTest {
         fewest(lamp, 24, 12, 0, 2, 2);
         fewest(lamp, 24, 9, 0, 1, 1);
         fewest(lamp, 24, 11, 1, 1, 0);
+    }
+
+    private static void fewestKnowsSlackKites() {
+        KiteLamp lamp = Told.under("lamp 4;" + kite("a", 10, 5, 0, 12) + kite("b", 30, 5, 99, 20));
+        fewest(lamp, 14, 11, 0, 1, 0);
+        fewest(lamp, 14, 12, 0, 1, 1);
+        fewest(lamp, 14, 13, 0, 1, -1);
+        fewest(lamp, 14, 14, 0, 3, 1);
+        fewest(lamp, 14, 15, 0, 3, -1);
+        lamp.lose(1, false);
+        fewest(lamp, 14, 12, 0, 1, 0);
+        fewest(lamp, 14, 15, 0, 3, 1);
+        // Three lines at 0 hang SLACK; each that is let out holds the lamp and drops it no more.
+        lamp = Told.under("lamp 4;" + kite("a", 10, 5, 0, 0) + kite("b", 10, 5, 0, 0) + kite("c", 10, 5, 0, 0));
+        fewest(lamp, 14, 1, 0, 3, 1);
+        fewest(lamp, 14, 2, 0, 3, 2);
+        fewest(lamp, 14, 3, 0, 3, 3);
+        fewest(lamp, 14, 3, 0, 2, -1);
+        fewest(lamp, 14, 3, 1, 2, 3);
+    }
+
+    private static void fewestBehindNearest() {
+        // Nearest changes two lines; one change is enough to be as near as is asked for here, none for more.
+        KiteLamp lamp = Told.under("lamp 15;" + kite("a", 10, 5, 0, 10) + kite("b", 30, 5, 0, 11));
+        nearest(lamp, 24, 13, 1, 2, 12, 12);
+        fewest(lamp, 24, 13, 1, 2, 2);
+        fewest(lamp, 24, 13, 2, 2, 1);
+        fewest(lamp, 24, 13, 3, 2, 0);
+        nearest(lamp, 24, 13, 1, 2, 12, 12);
+        fewest(lamp, 24, 13, 999, 2, 0);
+        nearest(lamp, 24, 13, 1, 2, 12, 12);
+    }
+
+    private static void fewestKeepsToTheLine() {
+        KiteLamp lamp = Told.under("lamp 4;" + kite("a", 10, 5, 0, 39));
+        fewest(lamp, 14, 40, 0, 1, 1);
+        fewest(lamp, 14, 36, 0, 3, 1);
+        fewest(lamp, 14, 35, 0, 3, -1);
+        fewest(lamp, 14, 35, 1, 3, 1);
+        lamp = Told.under("lamp 4;" + kite("a", 10, 5, 0, 1));
+        fewest(lamp, 4, 0, 0, 1, 1);
+        fewest(lamp, 4, 0, 0, 3, 1);
+        fewest(lamp, 14, 4, 0, 3, 1);
+        fewest(lamp, 14, 5, 0, 3, -1);
+    }
+
+    private static void endsOfWhatMayBeAsked() {
+        // HIGH 20, PLACE 34, and 20 +- 2 by the second line.
+        KiteLamp lamp = Told.under(TWO);
+        nearest(lamp, 0, 0, 34 + 18, 1, 12, 18);
+        nearest(lamp, 0, 40, 34 + 18, 1, 12, 22);
+        nearest(lamp, 999, 0, 965 + 18, 1, 12, 18);
+        fewest(lamp, 0, 0, 51, 3, 1);
+        fewest(lamp, 0, 0, 50, 3, -1);
+        fewest(lamp, 0, 0, 54, 1, 0);
+        fewest(lamp, 0, 40, 53, 1, 1);
+        fewest(lamp, 999, 0, 999, 1, 0);
+        fewest(lamp, 999, 0, 984, 1, 1);
+        fewest(lamp, 999, 0, 983, 1, -1);
     }
 
     private static void placesAtTheEnds() {

@@ -2,6 +2,9 @@
 public final class LotsTest {
     public static void main(String[] args) {
         draws();
+        theGreatestGust();
+        seedsAtTheEnds();
+        heightsAtTheEnds();
         eachNightIsFromNowOn();
         gustsMoveTheBoys();
         elsewhereTheGustIsNone();
@@ -35,6 +38,58 @@ public final class LotsTest {
         lots(lamp, 0, 20, 60, 10, often(0, 1200), 0);
         lots(lamp, 9999, 20, 60, 10, often(9999, 1200), 0);
         Check.same("the gust is 0 but in lots", lamp.wind(10), 0);
+    }
+
+    private static void theGreatestGust() {
+        // Of the draws below 10 the eighth is a 9: the gust is as great as told, but never greater.
+        String kite = "lamp 1;kite a plain at 10 lift 20 least 9 long 10;";
+        lots(Told.under("wind gust;gusts 9;" + kite), 1, 1, 7, 10, 0, 0);
+        lots(Told.under("wind gust;gusts 9;" + kite), 1, 1, 8, 10, 1, 0);
+        lots(Told.under("wind gust;gusts 8;" + kite), 0, 20, 60, 10, 0, 0);
+        lots(Told.under("wind gust+1;gusts 8;" + kite), 1, 20, 60, 10, draws(1, 1200, 9, 8), 0);
+        // Below 51 each comes: of 1,200 draws many are 50, none is 51.
+        String strong = "lamp 1;kite a plain at 10 lift 20 least 50 long 10;";
+        lots(Told.under("wind gust;gusts 50;" + strong), 7, 20, 60, 10, draws(7, 1200, 51, 50), 0);
+        lots(Told.under("wind gust-1;gusts 50;" + strong), 7, 20, 60, 10, 0, 0);
+        // Without gusts each draw is 0.
+        lots(Told.under("wind 20-gust;gusts 0;lamp 1;kite a plain at 10 lift 20 least 20 long 10;"), 7, 20, 60, 10, 1200, 10);
+        lots(Told.under("wind 20-gust;gusts 1;lamp 1;kite a plain at 10 lift 20 least 20 long 10;"), 7, 20, 60, 10,
+            1200 - draws(7, 1200, 2, 1), 0);
+    }
+
+    /** How many of so many draws below m come to this. */
+    private static int draws(long seed, int many, int below, int wanted) {
+        long g = seed;
+        int often = 0;
+        for (int i = 0; i < many; i++) {
+            g = g * 1103515245L + 12345L & (1L << 31) - 1;
+            often += (g >> 16) % below == wanted ? 1 : 0;
+        }
+        Check.that("draws below " + below + " come to " + wanted, often > 0);
+        return often;
+    }
+
+    private static void seedsAtTheEnds() {
+        // From seed 0 on the first g is 12345, and the draw 0.
+        String kite = "wind gust;gusts 50;lamp 1;kite a plain at 10 lift 20 least 1 long 10;";
+        lots(Told.under(kite), 0, 1, 1, 10, 0, 0);
+        long g = (9999 * 1103515245L + 12345L) % 2147483648L;
+        int first = (int) (g / 65536 % 51);
+        KiteLamp lamp = Told.under(kite.replace("least 1 ", "least " + first + " "));
+        lots(lamp, 9999, 1, 1, 10, 1, 10);
+        lamp = Told.under(kite.replace("least 1 ", "least " + (first + 1) + " "));
+        lots(lamp, 9999, 1, 1, 10, 0, 0);
+    }
+
+    private static void heightsAtTheEnds() {
+        KiteLamp lamp = Told.under("lamp 4;kite a plain at 10 lift 5 least 0 long 40;");
+        lots(lamp, 3, 2, 5, 40, 10, 40);
+        lots(lamp, 3, 2, 5, 0, 10, 40);
+        lamp = Told.under("lamp 4;kite a plain at 10 lift 5 least 0 long 39;");
+        lots(lamp, 3, 2, 5, 40, 0, 39);
+        lots(lamp, 3, 2, 5, 39, 10, 39);
+        lots(new KiteLamp(), 3, 20, 60, 0, 1200, 0);
+        lots(new KiteLamp(), 3, 20, 60, 1, 0, 0);
     }
 
     private static int often(long seed, int draws) {

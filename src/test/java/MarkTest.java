@@ -6,6 +6,9 @@ public final class MarkTest {
     public static void main(String[] args) {
         wrongMarks();
         aMarkHoldsAll();
+        aMarkHoldsItsNotes();
+        aMarkOfANewObject();
+        aRefusedMarkLeavesAll();
         aMarkStays();
         marksAreFour();
         theTapeIsNotOnIt();
@@ -58,6 +61,71 @@ public final class MarkTest {
         Check.same("fits() by the note", lamp.fits(), 0);
         lamp.run(3);
         Check.same("the whistle is hauled for", lamp.kite(0, 1), 29);
+    }
+
+    private static void aMarkHoldsItsNotes() {
+        KiteLamp lamp = Told.under("wind 20+minute*5;lamp 4;kite a plain at 10 lift 5 least 0 long 12;");
+        lamp.note(2, 16, 12);
+        lamp.note(3, 17, 12);
+        lamp.mark(2, false);
+        lamp.clear();
+        lamp.note(9, 0, 9);
+        lamp.note(9, 0, 9);
+        lamp.note(9, 0, 9);
+        lamp.mark(3, false);
+        Check.same("fits() by the wrong notes", lamp.fits(), 0);
+        lamp.mark(2, true);
+        Check.same("notes of mark 2", lamp.count(7), 2);
+        Check.same("fits() by its notes", lamp.fits(), 1);
+        Check.same("fit(0)", lamp.fit(0), 0);
+        lamp.note(4, 18, 12);
+        Check.same("fits() by one more", lamp.fits(), 1);
+        lamp.note(4, 18, 11);
+        Check.same("fits() by a wrong one", lamp.fits(), 0);
+        lamp.mark(2, true);
+        Check.same("mark 2 has two still", lamp.count(7), 2);
+        Check.same("fits() by these", lamp.fits(), 1);
+        lamp.mark(3, true);
+        Check.same("notes of mark 3", lamp.count(7), 3);
+        Check.same("fits() by them", lamp.fits(), 0);
+    }
+
+    private static void aMarkOfANewObject() {
+        KiteLamp lamp = new KiteLamp();
+        lamp.run(4);
+        lamp.note(1, 4, 0);
+        Check.same("mark(0, false)", lamp.mark(0, false), true);
+        Told.sky(lamp, SKY);
+        Check.same("mark(0, true)", lamp.mark(0, true), true);
+        long[] due = {0, 4, 20, 2, 5, 0, 0, 1, 0};
+        for (int what = 0; what < due.length; what++) {
+            Check.same("count(" + what + ") behind a new object's mark", lamp.count(what), due[what]);
+        }
+        Check.same("no law of wind", lamp.wind(3), 20);
+        Check.same("no kite", lamp.kite(0, 0), -1);
+    }
+
+    private static void aRefusedMarkLeavesAll() {
+        KiteLamp lamp = Told.under(SKY);
+        lamp.run(2);
+        lamp.whistle(0, 33);
+        lamp.mark(0, false);
+        lamp.run(1);
+        int[] refused = {-1, 4, 1, 2, 3};
+        for (int mark : refused) {
+            Check.same("mark(" + mark + ", true)", lamp.mark(mark, true), false);
+            Check.same("the minute", lamp.count(1), 3);
+            Check.same("the length", lamp.kite(0, 1), 16);
+        }
+        Check.same("mark(4, false)", lamp.mark(4, false), false);
+        Check.same("mark(-1, false)", lamp.mark(-1, false), false);
+        Check.same("mark(0, true)", lamp.mark(0, true), true);
+        Check.same("the minute of mark 0", lamp.count(1), 2);
+        Check.same("its whistle", lamp.kite(0, 4), 33);
+        // Whatever is whistled from here on is not on the mark.
+        lamp.whistle(0, 5);
+        lamp.mark(0, true);
+        Check.same("its whistle still", lamp.kite(0, 4), 33);
     }
 
     private static void aMarkStays() {

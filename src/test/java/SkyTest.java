@@ -8,12 +8,21 @@ public final class SkyTest {
     public static void main(String[] args) {
         rightTexts();
         numbersAndWords();
+        signsThatAreNoTokens();
+        blanksAreTenAndThirtyTwo();
         wrongLines();
+        onceEachWhereverItStands();
         wrongKites();
+        namesThatAreNotAlike();
+        namesThatAreAlike();
         wrongLaws();
         partsWithinOthers();
+        nothingOfAnEarlierTape();
         lawsOfWind();
+        sumsWrap();
+        theDeepestLaws();
         aFaultLeavesAll();
+        aFaultLeavesLostOnesAndMarks();
         aSkyBeginsAnew();
         spoiltTextsAgainstTheModel();
         signsAtRandomAgainstTheModel();
@@ -58,6 +67,49 @@ public final class SkyTest {
         wrong("lamp 4;\n~", 1, 8);
         wrong("wind 99999;", 1, 5);
         right("wind 9999;");
+    }
+
+    private static void signsThatAreNoTokens() {
+        for (char sign = 33; sign <= 126; sign++) {
+            boolean isToken = sign >= 'a' && sign <= 'z' || sign >= '0' && sign <= '9' || "()<=+-*;".indexOf(sign) >= 0;
+            if (!isToken) {
+                wrong("lamp 4;" + sign, 1, 7);
+                wrong("lamp " + sign + ";", 1, 5);
+                wrong("wind 1" + sign + "2;", 1, 6);
+            }
+        }
+        // The sign itself is a token, but none that could begin a line or a PART.
+        for (char sign : ")<=+-*;".toCharArray()) {
+            wrong("lamp 4;" + sign, 1, 7);
+            wrong("wind " + sign + "1;", 1, 5);
+        }
+    }
+
+    private static void blanksAreTenAndThirtyTwo() {
+        right("\nlamp\n4\n;\n\nhaul  \n 3;\n");
+        right("wind\n(\n1\n<\n2\n)\n;");
+        wrong("la mp 4;", 1, 0);
+        wrong("la\nmp 4;", 1, 0);
+        wrong("lamp 4 4;", 1, 7);
+        wrong("lamp 4\n4;", 1, 7);
+        wrong("\n \nlamp", 1, 7);
+        wrong("lamp\n\n", 1, 6);
+        wrong("windhigh;", 1, 0);
+        wrong("wind 1 and2 or3 andhigh;", 1, 16);
+    }
+
+    private static void onceEachWhereverItStands() {
+        String[] words = {"wind", "rule", "lamp", "haul", "tired", "gusts"};
+        StringBuilder all = new StringBuilder();
+        for (String word : words) {
+            all.append(word).append(" 1;");
+        }
+        right(all.toString());
+        for (String word : words) {
+            wrong(all + word + " 1;", 3, all.length());
+            wrong(all + KITE + " " + word, 3, all.length() + KITE.length() + 1);
+            wrong(word + " 1;" + KITE + word + " 1;", 3, word.length() + 3 + KITE.length());
+        }
     }
 
     private static void wrongLines() {
@@ -117,6 +169,33 @@ public final class SkyTest {
         wrong(six + "kite g", 5, six.length());
         wrong(six + KITE, 5, six.length());
         wrong(six + "lamp kite", 1, six.length() + 5);
+    }
+
+    private static String named(String... names) {
+        StringBuilder text = new StringBuilder();
+        for (String name : names) {
+            text.append(KITE.replace("kite a", "kite " + name));
+        }
+        return text.toString();
+    }
+
+    private static void namesThatAreNotAlike() {
+        right(named("a", "aa", "aaa", "aaaa", "aaaaaaa", "aaaaaaaa"));
+        right(named("ab", "ba", "abc", "bac", "abcdefgh", "bacdefgh"));
+        right(named("abcdefgh", "abcdefgi", "bbcdefgh", "abcdeegh", "abcdefg", "zbcdefgh"));
+        right(named("z", "p", "zz", "qj", "az", "bj"));
+        right(named("pull", "lean", "high", "minute", "gust", "k"));
+        right(named("windy", "win", "kites", "kit", "plainly", "plai"));
+    }
+
+    private static void namesThatAreAlike() {
+        wrong(named("a", "b", "c", "d", "e", "a"), 3, 5 * KITE.length() + 5);
+        wrong(named("a", "b", "c", "d", "e", "e"), 3, 5 * KITE.length() + 5);
+        wrong(named("a", "b", "c", "b"), 3, 3 * KITE.length() + 5);
+        wrong(named("abcdefgh", "x", "abcdefgh"), 3, 2 * KITE.length() + 7 + 5);
+        wrong(named("high", "high"), 3, KITE.length() + 3 + 5);
+        // Another kind and other numbers make no other NAME.
+        wrong(KITE + "kite a box at 2 lift 2 least 2 long 2;", 3, KITE.length() + 5);
     }
 
     private static void wrongLaws() {
@@ -194,6 +273,17 @@ public final class SkyTest {
         law("not 0*5", 5);
         law("not 5+5", 5);
         law("not high<3", 1);
+        law("1 and 1", 1);
+        law("0-1 and 0-1", 1);
+        law("0 and 5", 0);
+        law("3+(5 and 0)", 3);
+        law("3+(0 and 0)", 3);
+        law("3+(0 or 0)", 3);
+        law("3+(0-5 or 0)", 4);
+        law("3+(3<2)", 3);
+        law("3+(3=2)", 3);
+        law("3+not 0-1", 3);
+        law("3+not(0-1)", 3);
         law("5 and 7", 1);
         law("5 and 0", 0);
         law("0 or 7", 1);
@@ -221,6 +311,81 @@ public final class SkyTest {
         KiteLamp lamp = Told.under("wind minute*2+high;");
         lamp.run(5);
         Check.same("wind(1) in minute 5", lamp.wind(1), 11);
+    }
+
+    private static void nothingOfAnEarlierTape() {
+        KiteLamp lamp = new KiteLamp();
+        // The text ends where it ends, whatever letters, digits and signs an earlier one had there.
+        String[] earlier = {"lampions 12345;", "kitekite", "lamp 12345", "wind 1+1+1+1;", "lamp 1;haul 1;tired 1;"};
+        for (String before : earlier) {
+            Told.sky(lamp, before);
+            Check.same("sky() of 'kite' behind '" + before + "'", Told.sky(lamp, "kite"), 1 + 16 * 4);
+            Told.sky(lamp, before);
+            Check.same("sky() of 'lamp 1' behind '" + before + "'", Told.sky(lamp, "lamp 1"), 1 + 16 * 6);
+            Told.sky(lamp, before);
+            Check.same("sky() of 'lamp 9;' behind '" + before + "'", Told.sky(lamp, "lamp 9;"), 0);
+            Check.same("its weight", lamp.count(2), 9);
+            Told.sky(lamp, before);
+            Check.same("sky() of nothing behind '" + before + "'", lamp.sky(), 0);
+            Check.same("no kite", lamp.count(0), 0);
+            Check.same("the weight that is not told", lamp.count(2), 20);
+        }
+    }
+
+    /** At each of the five levels a left side of and, of a comparison, of a sum and of a product waits. */
+    private static void theDeepestLaws() {
+        String deepest = "0 or 0<1-2*1";
+        int value = 0;
+        law(deepest, value);
+        for (int level = 1; level <= 4; level++) {
+            deepest = "0 or 0<1-2*(" + deepest + ")";
+            value = 1 - 2 * value > 0 ? 1 : 0;
+            law(deepest, value);
+        }
+        wrong("wind 0 or 0<1-2*(" + deepest + ");", 5, 5 + 5 * 12);
+        String others = "7";
+        for (int level = 0; level < 4; level++) {
+            others = "3+1*(" + others + ")";
+        }
+        law(others, 19);
+        law("not not not not high", 1);
+    }
+
+    private static void sumsWrap() {
+        // 2^31 is 2048 * 1024 * 1024; one less than it is the greatest int.
+        law("2048*1024*1024<0", 1);
+        law("2048*1024*1024-1<0", 0);
+        law("2048*1024*1024-1+1<0", 1);
+        law("2048*1024*1024-1-(2048*1024*1024)=0-1", 1);
+        law("0-2048*1024*1024=2048*1024*1024", 1);
+        law("4096*1024*1024", 0);
+        law("4096*1024*1024+7", 7);
+        law("2048*1024*1024", 0);
+        law("2048*1024*1024-1", 99);
+    }
+
+    private static void aFaultLeavesLostOnesAndMarks() {
+        KiteLamp lamp = Told.under("rule 1;tired 7;gusts 6;" + named("a", "b"));
+        lamp.mark(1, false);
+        lamp.run(3);
+        lamp.lose(1, false);
+        String[] faults = {"lamp", "lamp 1;lamp 1;", "lamp 1000;", named("a", "b", "c", "d", "e", "f", "g")};
+        for (String fault : faults) {
+            Check.that("a FAULT of " + fault, Told.sky(lamp, fault) > 0);
+            long[] due = {2, 3, 20, 2, 7, 6, 1, 0, 0};
+            for (int what = 0; what < due.length; what++) {
+                Check.same("count(" + what + ") behind the FAULT of " + fault, lamp.count(what), due[what]);
+            }
+            Check.same("length", lamp.kite(0, 1), 4);
+            Check.same("hauled", lamp.kite(0, 5), 3);
+            Check.same("LOST", lamp.kite(1, 3), 2);
+            Check.same("nothing is on mark 0", lamp.mark(0, true), false);
+        }
+        lamp.run(1);
+        Check.same("the rule is kept to", lamp.kite(0, 1), 5);
+        Check.same("mark 1 is there", lamp.mark(1, true), true);
+        Check.same("its minute", lamp.count(1), 0);
+        Check.same("its length", lamp.kite(0, 1), 1);
     }
 
     private static void aFaultLeavesAll() {

@@ -4,7 +4,10 @@ public final class TapeTest {
         aNewObjectHasNoKite();
         feedTakesTheHighestByteFirst();
         feedLeavesOutOtherSigns();
+        everyByteInEveryPlace();
+        whatIsLeftOutPartsNothing();
         theTapeEndsAtAThousand();
+        aFullTapeIsTakenWhole();
         countTellsAllOfIt();
         Check.finish("TapeTest");
     }
@@ -36,7 +39,7 @@ public final class TapeTest {
 
     private static void feedTakesTheHighestByteFirst() {
         KiteLamp lamp = new KiteLamp();
-        // "lamp 123" "45;haul " "3;"
+        // "lamp 123" ";haul 3;" "      ti" and "red 7" ";"
         Check.same("feed in order", lamp.feed(0x6c616d7020313233L, 0x3b6861756c20333bL, 0x2020202020207469L), 24);
         Check.same("feed goes on behind", lamp.feed(0x7265642037000000L, 0L, 0x3b00000000000000L), 30);
         Check.same("sky() of what was fed", lamp.sky(), 0);
@@ -55,6 +58,39 @@ public final class TapeTest {
         // 10, 32, 126, 10: the sign 126 stands at 2 and is no token.
         Check.same("sky() of these", lamp.sky(), 1 + 16 * 2);
         Check.same("feed behind a fault", lamp.feed(0x20, 0, 0), 1);
+    }
+
+    private static void everyByteInEveryPlace() {
+        for (int sign = 0; sign <= 255; sign++) {
+            KiteLamp lamp = new KiteLamp();
+            int due = 0;
+            for (int place = 0; place < 24; place++) {
+                long[] three = new long[3];
+                three[place / 8] = (long) sign << 56 - 8 * (place % 8);
+                due += sign == 10 || sign >= 32 && sign <= 126 ? 1 : 0;
+                Check.same("feed of the byte " + sign + " at " + place, lamp.feed(three[0], three[1], three[2]), due);
+            }
+        }
+    }
+
+    private static void whatIsLeftOutPartsNothing() {
+        KiteLamp lamp = new KiteLamp();
+        // "la", 0, 9, "mp", 127, " " and "1", 255, "2", 31, "3", 128, ";"
+        Check.same("feed of parted signs", lamp.feed(0x6c6100096d707f20L, 0x31ff321f33803b00L, 0L), 9);
+        Check.same("sky() of them", lamp.sky(), 0);
+        Check.same("lamp 123", lamp.count(2), 123);
+    }
+
+    private static void aFullTapeIsTakenWhole() {
+        KiteLamp lamp = new KiteLamp();
+        Check.same("feed of 1,000 exactly", Told.feed(lamp, " ".repeat(1000)), 1000);
+        Check.same("one more", lamp.feed(0x20, 0, 0), 1000);
+        Check.same("sky() of a thousand blanks", lamp.sky(), 0);
+        Check.same("the tape is empty", lamp.count(8), 0);
+        Check.same("feed begins anew", lamp.feed(0x6c616d7020373bL, 0, 0), 7);
+        Check.same("sky() of what was fed anew", lamp.sky(), 0);
+        Check.same("lamp 7", lamp.count(2), 7);
+        Check.same("feed of nothing keeps the tape", Told.feed(lamp, "haul") * 10 + lamp.feed(0, 0, 0), 44);
     }
 
     private static void theTapeEndsAtAThousand() {
