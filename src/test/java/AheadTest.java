@@ -9,6 +9,7 @@ public final class AheadTest {
         wrongHolds();
         means();
         meansInLowestTerms();
+        meansAsItIs();
         wrongMeans();
         down();
         downBySix();
@@ -92,6 +93,22 @@ public final class AheadTest {
         means(Told.under("wind 30*(minute=3);"), 4, 3, 2, 0, 6);
         // The greatest PLACE that can be: 99 and 99 by 5.
         means(Told.under("wind 99;lamp 1;kite a plain at 99 lift 5 least 0 long 10;"), 240, 118, 1, 118, 118);
+    }
+
+    private static void meansAsItIs() {
+        // WIND is 5 times the height and the winch at 0: PLACE is as much as HIGH.
+        String sky = "wind high*5;lamp 1;rule 1;tired 2;kite a plain at 0 lift 1 least 0 long 10;";
+        KiteLamp lamp = Told.under(sky);
+        means(lamp, 4, 10 + 11 + 12 + 12, 4, 10, 12);
+        lamp.run(2);
+        // Tired at once: 12 12 13.
+        means(lamp, 3, 37, 3, 12, 13);
+        holds(lamp, 12, 12, 0, 3, 2);
+        lamp = Told.under(sky.replace("plain", "lazy"));
+        lamp.run(1);
+        // A lazy boy rests in minute 1: 11 11 12.
+        means(lamp, 3, 34, 3, 11, 12);
+        holds(lamp, 11, 11, 0, 3, 2);
     }
 
     private static void wrongHolds() {

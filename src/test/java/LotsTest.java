@@ -6,6 +6,7 @@ public final class LotsTest {
         seedsAtTheEnds();
         heightsAtTheEnds();
         eachNightIsFromNowOn();
+        eachNightIsAsItIs();
         gustsMoveTheBoys();
         elsewhereTheGustIsNone();
         wrongLots();
@@ -112,6 +113,27 @@ public final class LotsTest {
         lamp.run(2);
         lots(lamp, 5, 3, 3, 13, 6, 12);
         lots(Told.under("lamp 0;"), 5, 20, 60, 40, 1200, 40);
+    }
+
+    private static void eachNightIsAsItIs() {
+        String one = "lamp 4;kite a plain at 10 lift 5 least 0 long 10;";
+        KiteLamp lamp = Told.under("rule 1;tired 2;" + one);
+        lamp.run(2);
+        // Tired at once, in each night: 12 12 13.
+        lots(lamp, 5, 2, 3, 13, 2, 12);
+        lots(lamp, 5, 2, 2, 13, 0, 12);
+        lamp = Told.under(one);
+        lamp.whistle(0, 4);
+        // Hauled in, in each night: 10 8 6 4 4.
+        lots(lamp, 5, 2, 5, 8, 4, 4);
+        lots(lamp, 5, 3, 2, 10, 3, 8);
+        lamp = Told.under("rule 1;" + one.replace("plain", "lazy"));
+        lamp.run(1);
+        // A lazy boy rests in minute 1: 11 11 12.
+        lots(lamp, 5, 2, 3, 12, 2, 11);
+        lamp.lose(0, false);
+        lots(lamp, 5, 2, 3, 1, 0, 0);
+        lots(lamp, 5, 2, 3, 0, 6, 0);
     }
 
     private static void gustsMoveTheBoys() {
