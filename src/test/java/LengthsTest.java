@@ -9,6 +9,8 @@ public final class LengthsTest {
         nearestTakesTheShorterOfTwo();
         nearestKeepsToTheLine();
         nearestKnowsSlackKites();
+        nearestByTheWeightExactly();
+        nearestUnderAnotherSky();
         nearestIsOfNow();
         nearestLeavesLostOnes();
         wrongNearest();
@@ -93,6 +95,43 @@ public final class LengthsTest {
         nearest(lamp, 14, 0, 0, 0, 1, 9, 0);
         nearest(lamp, 14, 1, 0, 1, 1, 9, 2);
         nearest(lamp, 14, 2, 0, 2, 3, 9, 1);
+    }
+
+    private static void nearestByTheWeightExactly() {
+        String one = kite("a", 10, 5, 0, 12);
+        // A PULL of 10 holds 10, but not 11.
+        nearest(Told.under("lamp 10;" + one), 14, 12, 0, 0, 12);
+        nearest(Told.under("lamp 11;" + one), 14, 12, 12, 0, 12);
+        fewest(Told.under("lamp 10;" + one), 14, 13, 0, 1, 1);
+        fewest(Told.under("lamp 11;" + one), 14, 13, 12, 3, -1);
+        fewest(Told.under("lamp 11;" + one), 14, 13, 13, 3, 0);
+        // One behind it that pulls nothing, or not so high, takes nothing from it.
+        nearest(Told.under("lamp 10;" + one + kite("b", 30, 5, 99, 20)), 14, 11, 0, 0, 12, 20);
+        nearest(Told.under("lamp 10;" + one + kite("b", 30, 5, 0, 3)), 14, 12, 0, 0, 12, 3);
+        nearest(Told.under("lamp 10;" + kite("b", 30, 5, 99, 20) + one), 14, 11, 0, 0, 20, 12);
+        fewest(Told.under("lamp 10;" + one + kite("b", 30, 5, 99, 20)), 14, 11, 0, 1, 0);
+        // Both together, and one more than both.
+        String both = kite("a", 10, 5, 0, 12) + kite("b", 10, 3, 0, 12);
+        nearest(Told.under("lamp 16;" + both), 14, 12, 0, 0, 12, 12);
+        nearest(Told.under("lamp 17;" + both), 14, 12, 12, 0, 12, 12);
+    }
+
+    private static void nearestUnderAnotherSky() {
+        StringBuilder six = new StringBuilder("lamp 60;");
+        for (int k = 0; k < 6; k++) {
+            six.append(kite("k" + (char) ('a' + k), 10, 5, 0, 20));
+        }
+        KiteLamp lamp = Told.under(six.toString());
+        nearest(lamp, 14, 20, 0, 0, 20, 20, 20, 20, 20, 20);
+        // Of the six nothing is left under a sky with one.
+        Check.same("a sky with one", Told.sky(lamp, "lamp 15;" + kite("a", 10, 5, 0, 20)), 0);
+        nearest(lamp, 14, 20, 20, 0, 20, -1);
+        fewest(lamp, 14, 20, 19, 3, -1);
+        fewest(lamp, 14, 20, 20, 3, 0);
+        Check.same("a sky with six", Told.sky(lamp, six.toString()), 0);
+        nearest(lamp, 14, 21, 0, 6, 21, 21, 21, 21, 21, 21);
+        Check.same("a sky with none", Told.sky(lamp, ""), 0);
+        nearest(lamp, 14, 20, 30, 0, -1);
     }
 
     private static void nearestIsOfNow() {

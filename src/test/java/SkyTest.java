@@ -21,9 +21,11 @@ public final class SkyTest {
         lawsOfWind();
         sumsWrap();
         theDeepestLaws();
+        longLawsOneBehindTheOther();
         aFaultLeavesAll();
         aFaultLeavesLostOnesAndMarks();
         aSkyBeginsAnew();
+        theSameSkyAgain();
         spoiltTextsAgainstTheModel();
         signsAtRandomAgainstTheModel();
         Check.finish("SkyTest");
@@ -184,6 +186,7 @@ public final class SkyTest {
         right(named("ab", "ba", "abc", "bac", "abcdefgh", "bacdefgh"));
         right(named("abcdefgh", "abcdefgi", "bbcdefgh", "abcdeegh", "abcdefg", "zbcdefgh"));
         right(named("z", "p", "zz", "qj", "az", "bj"));
+        right(named("aa", "ca", "ea", "ba", "da", "ga"));
         right(named("pull", "lean", "high", "minute", "gust", "k"));
         right(named("windy", "win", "kites", "kit", "plainly", "plai"));
     }
@@ -428,6 +431,32 @@ public final class SkyTest {
         Check.same("two kites again", lamp.count(0), 2);
         Check.same("the same sky without kites", Told.sky(lamp, ""), 0);
         Check.same("no kites", lamp.count(0), 0);
+    }
+
+    private static void theSameSkyAgain() {
+        KiteLamp lamp = new KiteLamp();
+        String[] six = {"a", "b", "c", "d", "e", "f"};
+        String all = "wind 7;rule 1;lamp 3;haul 4;tired 9;gusts 7;" + named(six);
+        // What an earlier sky told, right or wrong, is told no more.
+        for (int i = 0; i < 3; i++) {
+            Check.same("the same sky again", Told.sky(lamp, all), 0);
+            Check.same("six kites", lamp.count(0), 6);
+            Check.same("others first", Told.sky(lamp, named("f", "e", "d", "c", "b", "a")), 0);
+            Check.same("a FAULT in the sixth", Told.sky(lamp, named("a", "b", "c", "d", "e", "a")), 3 + 16 * (5 * KITE.length() + 5));
+        }
+    }
+
+    private static void longLawsOneBehindTheOther() {
+        KiteLamp lamp = new KiteLamp();
+        for (int i = 1; i <= 5; i++) {
+            // Hundreds of NUMBERS in each of both laws, which come to i and to i + 1.
+            String law = i + "+0".repeat(240);
+            Check.same("long laws", Told.sky(lamp, "wind " + law + ";rule " + (i + 1) + law.substring(1) + ";haul 5;"), 0);
+            Check.same("wind(0) by a long law", lamp.wind(0), i);
+        }
+        Check.same("a long rule", Told.sky(lamp, "rule 3" + "+0".repeat(450) + ";haul 5;" + KITE), 0);
+        lamp.run(1);
+        Check.same("hauled by a long rule", lamp.kite(0, 1), 1 + 3);
     }
 
     private static void againstTheModel(KiteLamp lamp, String text) {
